@@ -423,7 +423,7 @@ public final class StereoForms {
             return count;
         }
 
-        /** Turns the first sense that is not 0 if bit 0 of the way is set, the second if bit 1 .. */
+        /** Bit 0 of the way turns the first sense that is not 0, bit 1 the second, and so on. */
         void turnSome(Drawing drawing, int way) {
             int left = way;
             for (int a = 0; a < drawing.atomCount; a++) {
@@ -481,7 +481,7 @@ public final class StereoForms {
             return sideOfEnd(drawing, a, b, a) * sideOfEnd(drawing, a, b, b);
         }
 
-        /** The side of the least neighbour of a hinge's end; 0 if the end makes the hinge's sense 0. */
+        /** The side of the least neighbour of a hinge's end; 0 if that end leaves no sense. */
         private static int sideOfEnd(Drawing drawing, int a, int b, int end) {
             int first = 0;
             for (int p = 0; p < drawing.atomCount; p++) {
@@ -549,7 +549,7 @@ public final class StereoForms {
             if (sense == 0) {
                 return 0;
             }
-            // It is all one which end has the lesser number: that turns both sides, not their product.
+            // Which end has the lesser number is all one: it turns both sides, so not the product.
             int a = drawing.firsts[bond];
             int b = drawing.seconds[bond];
             return sense * orderSign(drawing, a, b) * orderSign(drawing, b, a);
@@ -576,7 +576,7 @@ public final class StereoForms {
         }
     }
 
-    /** Goes through the numberings for the least rows and, of those that have them, the least senses. */
+    /** Goes through the numberings for the least rows and, of these, the least senses. */
     private static final class Search {
         final int[] rows = new int[MOST_ATOMS];
         final Numbering best = new Numbering();
