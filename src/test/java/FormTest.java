@@ -10,6 +10,7 @@ public final class FormTest {
         sensesOfCentres();
         sensesOfHinges();
         allNumberings();
+        allNumberingsOfHinge();
         chiral();
         isomers();
         tooManyIsomers();
@@ -117,6 +118,30 @@ public final class FormTest {
             Check.due("way " + way, x.row(1), 24 * HEAD + 1);
             Check.due("way " + way, x.row(2), 32 * HEAD + 1);
             Check.due("way " + way, x.row(3), 41 * HEAD + 1);
+        }
+    }
+
+    /** FClC=CFCl with both fluorines above, each end's two neighbours drawn in either order. */
+    private static void allNumberingsOfHinge() {
+        Check.part("promise 12, numberings of a hinge");
+        for (int way = 0; way < 8; way++) {
+            StereoForms x = new StereoForms();
+            int left = (way & 1) == 0 ? 0 : 1;
+            x.atom(0, 100 * left, 0);
+            x.atom(0, 100 - 100 * left, 0);
+            int leftUp = (way & 2) == 0 ? 1 : -1;
+            x.atom(leftUp > 0 ? 3 : 4, -50, 80 * leftUp);
+            x.atom(leftUp > 0 ? 4 : 3, -50, -80 * leftUp);
+            int rightUp = (way & 4) == 0 ? 1 : -1;
+            x.atom(rightUp > 0 ? 3 : 4, 150, 80 * rightUp);
+            x.atom(rightUp > 0 ? 4 : 3, 150, -80 * rightUp);
+            x.bond(0, 1, 2, 0);
+            x.bond(left, 2, 1, 0);
+            x.bond(left, 3, 1, 0);
+            x.bond(1 - left, 4, 1, 0);
+            x.bond(1 - left, 5, 1, 0);
+            Check.due("drawn so, way " + way, x.turn(0), 5 + leftUp * rightUp);
+            Check.due("the one sense of the form, way " + way, x.senses(), 3 * 364 + 2);
         }
     }
 

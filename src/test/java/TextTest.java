@@ -68,6 +68,8 @@ public final class TextTest {
         x.atom(2, 0, 0);
         x.isomers();
         x.chiral();
+        x.keep();
+        x.compare();
         Check.due("the text stays", Check.text(x), "C@@;F(0);Cl(0);S(0);");
         x.clear();
         Check.due("also without atoms", Check.text(x), "C@@;F(0);Cl(0);S(0);");
