@@ -274,7 +274,8 @@ public final class StereoForms {
         }
 
         int orderOf(int a, int b) {
-            return areBonded(a, b) ? orders[bondOf(a, b)] : 0;
+            int link = links[a][b];
+            return link != 0 ? orders[link - 1] : 0;
         }
 
         int addAtom(int element, int x, int y) {
@@ -390,6 +391,8 @@ public final class StereoForms {
     private static final class Senses {
         final int[] atoms = new int[MOST_ATOMS];
         final int[] bonds = new int[MOST_BONDS];
+        /** A hinge whose sense is 0 counts in the code too, so the senses alone don't tell it. */
+        final boolean[] hinges = new boolean[MOST_BONDS];
         private final int[] around = new int[4];
 
         void readFrom(Drawing drawing) {
@@ -398,12 +401,14 @@ public final class StereoForms {
             }
             for (int bond = 0; bond < drawing.bondCount; bond++) {
                 bonds[bond] = senseOfBond(drawing, bond);
+                hinges[bond] = drawing.isHinge(bond);
             }
         }
 
         void copyFrom(Senses other) {
             System.arraycopy(other.atoms, 0, atoms, 0, MOST_ATOMS);
             System.arraycopy(other.bonds, 0, bonds, 0, MOST_BONDS);
+            System.arraycopy(other.hinges, 0, hinges, 0, MOST_BONDS);
         }
 
         void mirror() {
@@ -531,7 +536,7 @@ public final class StereoForms {
             for (int i = 0; i < drawing.atomCount; i++) {
                 for (int j = 0; j < i; j++) {
                     int bond = drawing.bondOf(atoms[i], atoms[j]);
-                    if (bond != NONE && drawing.isHinge(bond)) {
+                    if (bond != NONE && senses.hinges[bond]) {
                         code = 3 * code + senseOfBond(drawing, senses, bond) + 1;
                     }
                 }
@@ -561,13 +566,14 @@ public final class StereoForms {
          * hinge's end it makes the neighbour on the other side the least.
          */
         private int orderSign(Drawing drawing, int a, int except) {
+            int[] links = drawing.links[a];
             int sign = 1;
             for (int q = 0; q < drawing.atomCount; q++) {
-                if (q == except || !drawing.areBonded(a, q)) {
+                if (q == except || links[q] == 0) {
                     continue;
                 }
                 for (int p = 0; p < q; p++) {
-                    if (p != except && drawing.areBonded(a, p) && numbers[p] > numbers[q]) {
+                    if (p != except && links[p] != 0 && numbers[p] > numbers[q]) {
                         sign = -sign;
                     }
                 }

@@ -34,10 +34,14 @@ final class Check {
     /** The text as it stands, read until there is no character more. */
     static String text(StereoForms x) {
         StringBuilder text = new StringBuilder();
-        for (int i = 0; x.at(i) != StereoForms.BAD; i++) {
-            text.append((char) x.at(i));
+        for (int c = x.at(0); c != StereoForms.BAD; c = x.at(text.length())) {
+            text.append((char) c);
         }
         return text.toString();
+    }
+
+    static int asked() {
+        return asked;
     }
 
     static void end() {

@@ -4,8 +4,10 @@ import java.util.Random;
 
 /** All promises: long runs of calls, each answer beside that of the plain model in Model.java. */
 public final class ModelTest {
-    private static final int RUNS = 400;
-    private static final int STEPS = 60;
+    private static final int RUNS = 500;
+    private static final int STEPS = 48;
+    /** What an object answers after so many calls is free. */
+    private static final int MOST_CALLS = 512;
 
     private final Random random;
     private final StereoForms x = new StereoForms();
@@ -33,6 +35,7 @@ public final class ModelTest {
     }
 
     private void run() {
+        int before = Check.asked();
         for (int step = 0; step < STEPS; step++) {
             change();
             if (step % 4 == 0) {
@@ -45,9 +48,12 @@ public final class ModelTest {
                 compareAfterRenumbering();
             }
         }
-        look();
+        readText();
         Check.due("clear()", x.clear(), model.clear());
         look();
+        // Each call is asked about once.
+        int calls = Check.asked() - before;
+        Check.due(calls + " calls are not too many", calls <= MOST_CALLS, true);
     }
 
     private void change() {
@@ -144,7 +150,15 @@ public final class ModelTest {
         Check.due("senses() after isomers()", x.senses(), model.senses());
         int length = x.write();
         Check.due("write()", length, model.write());
-        for (int i = -1; i <= length + 1; i++) {
+        for (int i = length - 1; i <= length; i++) {
+            Check.due("at(" + i + ")", x.at(i), model.at(i));
+        }
+    }
+
+    private void readText() {
+        int length = x.write();
+        Check.due("write()", length, model.write());
+        for (int i = -1; i <= length; i++) {
             Check.due("at(" + i + ")", x.at(i), model.at(i));
         }
     }

@@ -23,6 +23,8 @@ public final class RulesTest {
             "\\bsynchronized\\b", "\\bpackage\\b", "\\bprotected\\b", "\\bwhile \\(true\\)", "\\bSystem\\.(?!arraycopy)",
             "\\bThread\\b", "\\bRandom\\b", "\\bstatic \\{");
     private static final int LONGEST_METHOD = 60;
+    private static final int DEEPEST_CALLS = 8;
+    private static final Path PROGRAM = Path.of("src/main/java/StereoForms.java");
 
     public static void main(String[] args) throws IOException {
         face();
@@ -30,6 +32,7 @@ public final class RulesTest {
         members(StereoForms.class);
         classes();
         text();
+        depth();
         Check.end();
     }
 
@@ -99,7 +102,7 @@ public final class RulesTest {
 
     private static void text() throws IOException {
         Check.part("the program's text");
-        String program = Files.readString(Path.of("src/main/java/StereoForms.java"));
+        String program = Files.readString(PROGRAM);
         String code = program.replaceAll("(?s)/\\*.*?\\*/", "").replaceAll("//.*", "");
         for (String ruledOut : RULED_OUT) {
             Check.due(ruledOut, Pattern.compile(ruledOut).matcher(code).find(), false);
@@ -109,6 +112,13 @@ public final class RulesTest {
             int lines = body.split("\\R").length;
             Check.due("lines without a gap: " + body.strip().split("\\R")[0], lines <= LONGEST_METHOD, true);
         }
+    }
+
+    private static void depth() throws IOException {
+        Check.part("rule 11");
+        CallGraph graph = CallGraph.of(PROGRAM);
+        Check.due("all methods of the face are read", graph.methods() > FACE.size() - 3, true);
+        Check.due("calls go " + graph.depth() + " deep", graph.depth() <= DEEPEST_CALLS, true);
     }
 
     private static String modifiersOf(Member member) {
