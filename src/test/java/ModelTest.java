@@ -45,7 +45,7 @@ public final class ModelTest {
                 look();
             }
             if (step % 24 == 23) {
-                compareAfterRenumbering();
+                compareAfterChanges();
             }
         }
         readText();
@@ -163,7 +163,7 @@ public final class ModelTest {
         }
     }
 
-    private void compareAfterRenumbering() {
+    private void compareAfterChanges() {
         Check.due("keep()", x.keep(), model.keep());
         Check.due("compare()", x.compare(), model.compare());
         Check.due("flip()", x.flip(), model.flip());
